@@ -266,8 +266,8 @@ public final class RutWays {
         other.takeOver(now);
         int done = 0;
         int why = 0;
-        while (done < deeds.size && why == 0) {
-            why = other.tryDeed(deeds.numberAt(done));
+        for (int i = 0; i < deeds.size && why == 0; i++) {
+            why = other.tryDeed(deeds.numberAt(i));
             if (why == 0) {
                 done++;
             }
@@ -1062,7 +1062,7 @@ public final class RutWays {
             length = bytes == null ? 0 : Math.min(n, bytes.length);
             size = 0;
             int at = 0;
-            while (at < length) {
+            for (int round = 0; round < MOST_BYTES && at < length; round++) {
                 int first = byteAt(at);
                 if (first == 10 || first == 32) {
                     at++;

@@ -33,6 +33,7 @@ public final class FaultsTest {
 
     public static void main(String[] args) {
         tokens();
+        words();
         places();
         bounds();
         tooMany();
@@ -62,6 +63,29 @@ public final class FaultsTest {
         faultAt(2, LAND + "rain 1^a @");
         faultAt(2, LAND + "^landplaces 3;");
         faultAt(2, LAND + "^ra in 3;");
+    }
+
+    /** Each word that is written otherwise can't stand where it could. */
+    private static void words() {
+        String text = "land places 2;lane 0 1 depth 1 soft 1 risk 1;cart at 0 pull 1;person turns 1 back;rain 1;"
+            + "wears:if not 1=1 and 1=1 or 1=1 then lane+depth+soft else pull+rain end;may:back=0;";
+        fine(7, text);
+        int at = 0;
+        while (at < text.length()) {
+            int to = at;
+            while (to < text.length() && Character.isLetter(text.charAt(to))) {
+                to++;
+            }
+            if (to > at) {
+                String word = text.substring(at, to);
+                String[] others = {"x" + word.substring(1), word.substring(0, word.length() - 1) + "x", word + "x", "x" + word,
+                    word.substring(1), word.substring(0, word.length() - 1)};
+                for (String other : others) {
+                    fault(2, at, text.substring(0, at) + other + text.substring(to));
+                }
+            }
+            at = to + 1;
+        }
     }
 
     private static void places() {
@@ -153,6 +177,10 @@ public final class FaultsTest {
         faultAt(2, LAND + "wears: " + times("(", 6) + "^not 1;");
         faultAt(1, LAND + "wears: " + times("(", 6) + "^#;");
         faultAt(4, LAND + "wears: if [not [not (^if 1 = 1 then 1 else (1) end) = 1]] then 1 else 2 end;");
+        faultAt(4, LAND + "wears: (((((if ^(1) = 1 then 1 else 1 end)))));");
+        faultAt(4, LAND + "wears: (((((if 1 = 1 then ^(1) else 1 end)))));");
+        faultAt(4, LAND + "wears: (((((if 1 = 1 then 1 else ^(1) end)))));");
+        faultAt(4, LAND + "wears: (((((if 1 = 1 then 1 else 2 * ^if 1 = 1 then 1 else 1 end end)))));");
         faultAt(4, LAND + "wears: if not not not not not 1 = ^(1) then 1 else 2 end;");
     }
 
@@ -168,6 +196,7 @@ public final class FaultsTest {
         fine(2, LAND + "may:" + times("[", 6) + "1=1" + times("]", 6) + ";");
         fine(2, LAND + "may:" + times("not ", 6) + "1=1 and not not 2=2 or [[not (1)=1]];");
         fine(2, LAND + "wears:(((if not 1=1 then (1) else ((1)+(2)) end)));");
+        fine(2, LAND + "wears:(((((if 1=1 then 1 else 1 end))))) + (1) + if (1)=1 then (1) else (1) end;");
         fine(2, LAND + "may:if back = back then lane else depth end < soft + pull * rain;");
         fine(2, LAND + "wears:" + times("1+", 439) + "1;");
         fine(2, LAND + "may:" + times("1=1or ", 140) + "1=1;");

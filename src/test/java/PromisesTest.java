@@ -133,6 +133,22 @@ public final class PromisesTest {
         due("later may", x.lane(0, 5), 1);
         in("land places 1;person turns 8 back back;person turns 007;");
         due("back", x.count(6), 1);
+        x = new RutWays();
+        for (int i = 0; i < 6; i++) {
+            Check.tell(x, "land places 3;lane 0 1 depth 5 soft 6 risk 7;cart at 1 pull 8;person turns 1 back;rain 9;wears:3;may:1=2;");
+        }
+        for (int i = 0; i < 6; i++) {
+            due("nothing is left of lands ahead", Check.tell(x, "land places 2;lane 1 0;person turns 2;"), 3);
+            int[] lane = {1, 0, 0, 0, 0, 1};
+            int[] counts = {2, 1, 1, 0, 0, 0, 0, 0, 0, 0, 0, 3};
+            for (int k = 0; k < lane.length; k++) {
+                due("lane(0, " + k + ")", x.lane(0, k), lane[k]);
+            }
+            for (int k = 0; k < counts.length; k++) {
+                due("count(" + k + ")", x.count(k), counts[k]);
+            }
+            due("no law", x.worn(0), 0);
+        }
         in("land\n\nplaces2;lane0 1depth3;");
         due("blanks where they are needed", x.lane(0, 2), 3);
     }
@@ -434,6 +450,10 @@ public final class PromisesTest {
         due("undone as a whole", x.undo(1), 0);
         due("cart", x.count(3), 0);
         due("went", x.count(8), 0);
+        put(0, 39);
+        due("just one", x.perform(0), 1);
+        due("undone", x.undo(1), 0);
+        due("rain", x.count(5), 0);
         put(0, 1);
         due("none", x.perform(0), 0);
         due("it did none", x.count(9), 0);
@@ -464,6 +484,11 @@ public final class PromisesTest {
                     due("count(" + i + ") then", x.count(i), then[i]);
                 }
                 due("one call, if it did some", x.count(9), done > 0 ? 1 : 0);
+                due("undone as a whole", x.undo(1), done > 0 ? 0 : -3);
+                int[] ahead = {3, 4, 3, 0, 3, 0, 0, 2, 0};
+                for (int i = 0; i < ahead.length; i++) {
+                    due("count(" + i + ") undone", x.count(i), ahead[i]);
+                }
             }
         }
     }
@@ -612,6 +637,8 @@ public final class PromisesTest {
         due("cheapBy(5, -1)", x.cheapBy(5, -1), -2);
         due("cheapBy(1, -1)", x.cheapBy(1, -1), -3);
         due("cheapBy(1, max)", x.cheapBy(1, Integer.MAX_VALUE), -1);
+        in("land places 2;lane 0 1 depth 2;");
+        due("the first call of all", x.cheapBy(1, 0), 0);
         in("land places 3;lane 0 1;lane 1 2 depth 3;may:depth > 3 or lane < 1;");
         due("it can't be", x.cheapest(2, 0), -1);
         due("it can't be", x.cheapest(2, 1), -1);
@@ -695,6 +722,9 @@ public final class PromisesTest {
         due("all of them", x.starts(1), 7);
         due("starts(2)", x.starts(2), -2);
         due("starts(-1)", x.starts(-1), -2);
+        in("land places 1;person turns 1;person turns 0;");
+        due("nobody has to", x.starts(0), 0);
+        due("nobody has to", x.starts(1), 0);
         in("land places 1;");
         due("nobody", x.starts(0), 0);
         due("nobody", x.starts(1), 0);
@@ -754,6 +784,14 @@ public final class PromisesTest {
         due("the least of the greatest", x.attempt(0), 1);
         put(0, 0, 1);
         due("there are none", x.attempt(0), -1);
+        in("land places 2;lane 0 1;lane 0 1;lane 0 1;lane 0 1;wears:if lane = 0 then 3 else if lane = 1 then"
+            + " if rain = 9 or rain = 0 then 6 else if rain < 5 then 1 else 2 end end else"
+            + " if lane = 2 then if rain < 4 then 6 else if rain < 7 then 5 else 4 end end else rain - 1 end end end;");
+        put(0, 3);
+        due("all ten, in 4 and 4 and 2, in 4 and 3 and 3, and, the least, in 2 and 5 ones and 3", x.attempt(0), 3);
+        put(0, 16);
+        due("0 and 9 alone", x.rains(0), 513);
+        due("lane 2 tells them apart first", x.attempt(0), 2);
         in("land places 1;");
         put(0, 0);
         due("no lanes", x.attempt(0), -3);
@@ -777,6 +815,12 @@ public final class PromisesTest {
         // By lane 1 to place 1, from where both lanes to place 0 leave one lane more, back to place 2.
         due("wins()", x.wins(), 1);
         due("best()", x.best(), 1);
+        in("land places 2;lane 0 1;lane 0 1;lane 0 1;lane 0 1;lane 0 1;lane 0 1;lane 0 1;lane 0 1;lane 0 1;");
+        due("nine lanes", x.wins(), 1);
+        Check.tell(x, "land places 3;lane 0 1;lane 1 2;");
+        due("nothing is left of the land ahead", x.wins(), 0);
+        Check.tell(x, "land places 2;lane 0 1;");
+        due("one lane", x.best(), 0);
     }
 
     private static void promises35and36() {
@@ -930,6 +974,18 @@ public final class PromisesTest {
         due("a fault", x.land(4), -32);
         due("restore(1)", x.restore(1), 0);
         due("fault stays", x.fault(0), 2);
+        for (int one = 0; one < 2; one++) {
+            in("land places 5;lane 3 4 soft 2;rain 2;may:1=2;");
+            x.image(one);
+            for (int i = 0; i < 5; i++) {
+                Check.tell(x, "land places 6;lane 0 5 soft 9;may:1=1;");
+            }
+            due("restore(" + one + ")", x.restore(one), 0);
+            due("places", x.count(0), 5);
+            due("soft", x.lane(0, 3), 2);
+            due("law", x.lane(0, 5), 0);
+            due("the other one was never made", x.restore(1 - one), -5);
+        }
         x = new RutWays();
         due("image(0) without a land", x.image(0), 0);
         Check.tell(x, "land places 2;");

@@ -120,11 +120,11 @@ public final class RulesTest {
         String text = "land places 7;lane 0 1;lane 1 2 depth 3;lane 2 3;lane 3 4 soft 9;lane 4 5;lane 5 6;lane 6 0;cart at 0 pull 3;"
             + "person turns 1;person turns 2;wears:depth + 1;may:depth < 4;";
         RutWays x = new RutWays();
-        for (int round = 0; round < 3; round++) {
+        for (int round = 0; round < 5; round++) {
             long before = threads.getThreadAllocatedBytes(id);
             callAll(x, text);
             long after = threads.getThreadAllocatedBytes(id);
-            Check.holds("bytes by one of each call: " + (after - before), round == 0 || after - before < 2000);
+            Check.holds("bytes by one of each call: " + (after - before), round < 4 || after - before < 2000);
         }
         long before = threads.getThreadAllocatedBytes(id);
         for (int i = 0; i < 100; i++) {
