@@ -1,6 +1,6 @@
 /** Edges of what can be asked: coming, fewest, turning back, worn, by turns, through; promises 19 to 36. */
 final class EdgesOfAsking extends Edges {
-    private static final String CHAIN = "land places 7;lane 0 1;lane 1 2;lane 2 3;lane 3 4;lane 4 5;lane 5 6;";
+    private static final String CHAIN = chain("");
     private static final String NINE_BESIDE = "land places 2;" + times("lane 0 1;", 9);
 
     private EdgesOfAsking() {
@@ -24,6 +24,15 @@ final class EdgesOfAsking extends Edges {
         byTurns();
         through();
         bestBy();
+    }
+
+    /** Seven places, one behind the other, with these flags of each lane. */
+    private static String chain(String flags) {
+        StringBuilder s = new StringBuilder("land places 7;");
+        for (int l = 0; l < 6; l++) {
+            s.append("lane ").append(l).append(" ").append(l + 1).append(flags).append(";");
+        }
+        return s.toString();
     }
 
     private static void openLanes() {
@@ -107,7 +116,14 @@ final class EdgesOfAsking extends Edges {
         due("one lane once, the other twice, in three orders", x.rows(1, 3), 3);
         due("none is left", x.rows(0, 4), 0);
         in("land places 2;lane 0 1;lane 0 1;wears:5;may:depth=0 or depth=5;");
+        due("ruts stay", x.count(7), 0);
         due("other depths, open again", x.rows(0, 6), 64);
+        for (int l = 0; l < 9; l++) {
+            in("land places 2;" + times("lane 0 1 depth 6;", l) + "lane 0 1 depth 6 soft 1;" + times("lane 0 1 depth 6;", 8 - l)
+                + "may:soft=1 and depth=6;wears:6;");
+            due("lane " + l + " alone, at its deepest", x.rows(0, 4), 1);
+            due("lane " + l + " alone, at its deepest", x.rows(1, 3), 1);
+        }
         says(21, "How many ROWS of just n LANES (0 to 6) there are behind which it is in a PLACE. -2; -3.");
         in(NINE_BESIDE);
         int[] all = {1, 9, 81, 729, 6561, 59049, 531441};
@@ -121,6 +137,12 @@ final class EdgesOfAsking extends Edges {
         for (int k : new int[] {-1, 2, 7, MIN, MAX}) {
             due("rows(" + k + ", 0)", x.rows(k, 0), -2);
             due("rows(" + k + ", 7)", x.rows(k, 7), -2);
+        }
+        in("land places 4;lane 0 1 soft 9;lane 1 2 soft 9;cart at 0 pull 0;");
+        due("each once, too deep behind", x.rows(2, 2), 1);
+        due("back by the same", x.rows(0, 2), 0);
+        for (int n = 0; n <= 6; n++) {
+            due("where it can't come, by " + n, x.rows(3, n), 0);
         }
         in(CHAIN);
         due("six lanes", x.rows(6, 6), 1);
@@ -168,6 +190,9 @@ final class EdgesOfAsking extends Edges {
         in("land places 3;lane 0 1;lane 1 2;lane 0 2;");
         due("the shortest", x.way(2, 0), 2);
         due("not so many", x.way(2, 1), -1);
+        in("land places 4;lane 0 3 depth 1;lane 0 1;lane 1 2;lane 2 3;");
+        due("not by one that isn't open, though it leads on", x.way(1, 0), 1);
+        due("not by one that isn't open", x.way(3, 0), 1);
         in("land places 2;lane 0 1 soft 9;lane 0 1;cart at 0 pull 0;");
         due("it would be too deep behind, but not ahead", x.way(1, 0), 0);
     }
@@ -209,7 +234,7 @@ final class EdgesOfAsking extends Edges {
         due("like fillings and lanes", x.cheapest(3, 0), 1);
         due("the first by lanes", x.cheapBy(3, 0), 2);
         due("the first by lanes", x.cheapBy(3, 1), 0);
-        in(CHAIN.replace(";lane", " depth 6;lane").replace("land places 7 depth 6", "land places 7").replace("5 6;", "5 6 depth 6;"));
+        in(chain(" depth 6"));
         due("all that can be: 36", x.cheapest(6, 0), 36);
         due("six lanes", x.cheapest(6, 1), 6);
         says(24, "CHEAPEST to a PLACE, what 0: how many FILLINGS, 1: how many LANES. NONE: it can't be; -2.");
@@ -242,6 +267,9 @@ final class EdgesOfAsking extends Edges {
             due("no place " + k, x.cheapBy(k, 0), -2);
             due("no place " + k + " goes first", x.cheapBy(k, -1), -2);
         }
+        in("land places 4;lane 0 3 depth 1;lane 0 1;lane 1 2;lane 2 3;may:lane>0;");
+        due("not by one that can't be opened, though it leads on", x.cheapBy(1, 0), 1);
+        due("not by one that can't be opened", x.cheapBy(3, 0), 1);
         in(CHAIN);
         for (int i = 0; i < 6; i++) {
             due("lane " + i, x.cheapBy(6, i), i);
@@ -264,8 +292,7 @@ final class EdgesOfAsking extends Edges {
         due("six lanes of nine", x.joins(1), 1 + 8 + 16 + 32 + 64 + 128);
         x.dig(7);
         due("one filled", x.joins(0), 1);
-        in("land places 7;lane 0 1 depth 6;lane 1 2 depth 6;lane 2 3 depth 6;lane 3 4 depth 6;lane 4 5 depth 6;lane 5 6 depth 6;"
-            + "cart at 6 pull 0;");
+        in(chain(" depth 6") + "cart at 6 pull 0;");
         due("all that can be: 36", x.joins(0), 36);
         due("all six", x.joins(1), 63);
         says(26, "JOINING, what 0: how many FILLINGS, 1: LANES, as bits. NONE: it can't be; -2: what.");
@@ -278,6 +305,12 @@ final class EdgesOfAsking extends Edges {
         for (int what : new int[] {-1, 2, MIN, MAX}) {
             due("what " + what + ", ahead of NONE", x.joins(what), -2);
         }
+        in("land places 3;lane 0 1;lane 1 2;may:lane=0;");
+        due("one place can't be joined", x.joins(0), -1);
+        due("one place can't be joined", x.joins(1), -1);
+        in("land places 3;lane 0 1;lane 1 2;lane 2 0 depth 5;may:lane=0 or lane=2 and depth<2;");
+        due("not by one that can't be opened", x.joins(0), 4);
+        due("not by one that can't be opened", x.joins(1), 5);
         in("land places 2;");
         due("no lanes", x.joins(0), -1);
         in("land places 1;");
@@ -478,6 +511,14 @@ final class EdgesOfAsking extends Edges {
         put(0, 12);
         due("rains 1 to 9", x.rains(0), 1022);
         due("eight is less than nine", x.attempt(0), 0);
+        in("land places 2;lane 0 1;lane 0 1;lane 0 1;wears:if lane=0 then 3 else if lane=1 then if rain<2 then 0 else 6 end"
+            + " else if rain<3 then 0 else if rain<6 then 6 else 1 end end end end;");
+        put(0, 3);
+        due("eight by the greatest depth count, too; four is least", x.attempt(0), 2);
+        in("land places 2;lane 0 1;lane 0 1;wears:if lane=0 then if rain=0 or rain=9 then 0 else 1 end else rain end;");
+        put(0, 0);
+        due("rains 0 and 9", x.rains(0), 513);
+        due("the last rain counts, too", x.attempt(0), 1);
         for (int tray : new int[] {-1, 4, MIN, MAX}) {
             due("tray " + tray, x.attempt(tray), -2);
         }
@@ -557,8 +598,19 @@ final class EdgesOfAsking extends Edges {
         due("open ones alone, each by itself", x.chance(1, 7, 0), 9);
         due("open ones alone, each by itself", x.chance(1, 7, 1), 100);
         due("nothing is done by asking", x.count(7), 1);
+        in("land places 3;lane 1 0 risk 5;lane 2 1 risk 5;cart at 2 pull 0;");
+        due("from the last place to the first", x.chance(0, 2, 0), 1);
+        due("from the last place to the first", x.chance(0, 2, 1), 4);
+        due("by one it can't", x.chance(0, 1, 0), 0);
+        in("land places 4;lane 0 2;lane 0 3;lane 1 2 depth 1;cart at 2 pull 0;");
+        due("through place 0", x.chance(3, 2, 0), 1);
+        due("by a lane that isn't open", x.chance(1, 7, 0), 0);
+        due("by a lane that isn't open", x.chance(1, 7, 1), 1);
+        in("land places 3;lane 1 2;");
+        due("no lane leads on", x.chance(1, 7, 0), 0);
+        due("no lane leads on", x.chance(1, 7, 1), 1);
         says(35, "THROUGH to a PLACE, what 0: the number above, 1: below, in lowest terms. -2: the PLACE, what; -3: n.");
-        in(CHAIN.replace(";lane", " risk 9;lane").replace("land places 7 risk 9", "land places 7").replace("5 6;", "5 6 risk 9;"));
+        in(chain(" risk 9"));
         due("the least that can be", x.chance(6, 6, 0), 1);
         due("the least that can be", x.chance(6, 6, 1), 1000000);
         due("by seven, too", x.chance(6, 7, 1), 1000000);
@@ -566,7 +618,7 @@ final class EdgesOfAsking extends Edges {
         due("by five it can't", x.chance(6, 5, 1), 1);
         due("where it is", x.chance(0, 0, 0), 1);
         due("where it is", x.chance(0, 7, 1), 1);
-        in(CHAIN.replace(";lane", " risk 5;lane").replace("land places 7 risk 5", "land places 7").replace("5 6;", "5 6 risk 8;"));
+        in(chain(" risk 5").replace("5 6 risk 5", "5 6 risk 8"));
         due("lowest terms", x.chance(6, 7, 0), 1);
         due("lowest terms", x.chance(6, 7, 1), 160);
         for (int n : new int[] {-1, 8, 9, MIN, MAX}) {
@@ -605,6 +657,19 @@ final class EdgesOfAsking extends Edges {
         due("never so: it sticks", x.bestBy(1, 7), -1);
         in("land places 2;lane 0 1 depth 1;");
         due("never so: not open", x.bestBy(1, 7), -1);
+        in("land places 3;lane 0 2 depth 1;lane 2 1;lane 0 1;lane 0 2;");
+        due("not by one that isn't open", x.bestBy(2, 1), 3);
+        due("not by one that isn't open", x.bestBy(2, 7), 2);
+        in("land places 2;" + times("lane 0 1 risk 9;", 8) + "lane 0 1 risk 8;");
+        due("the ninth lane", x.bestBy(1, 1), 8);
+        due("the ninth lane", x.chance(1, 1, 1), 5);
+        in("land places 4;lane 1 0;lane 3 0 risk 9;lane 3 1 risk 2;cart at 3 pull 0;");
+        due("to place 0, by one", x.bestBy(0, 1), 1);
+        due("to place 0, by two", x.bestBy(0, 2), 2);
+        in("land places 4;lane 0 2;lane 0 3;cart at 2 pull 0;");
+        due("through place 0", x.bestBy(3, 2), 0);
+        in(chain(" risk 9"));
+        due("the least that can be", x.bestBy(6, 7), 0);
         in(CHAIN);
         due("too few lanes", x.bestBy(6, 5), -1);
         due("just enough", x.bestBy(6, 6), 0);

@@ -610,6 +610,12 @@ final class EdgesOfDeeds extends Edges {
             due("depth of lane " + i + " behind year(" + seed + ", " + times + ")", x.lane(i, 2), deep[i]);
         }
         due("one call, if it did some", x.count(9), done > 0 ? 1 : 0);
+        due("undone as a whole", x.undo(1), done > 0 ? 0 : -3);
+        int[] ahead = {2, 9, 8, 0, 9, 0, 0, 27, 0};
+        for (int i = 0; i < 9; i++) {
+            due("count(" + i + ") ahead of it", x.count(i), ahead[i]);
+            due("depth of lane " + i + " ahead of it", x.lane(i, 2), 3);
+        }
     }
 
     private static int draw(long[] s) {

@@ -186,6 +186,17 @@ final class EdgesOfKeeping extends Edges {
         x.rain(2);
         due("what is done behind can be undone", x.undo(1), 0);
         due("rain", x.count(5), 8);
+        x.rain(2);
+        x.rain(3);
+        due("restore(0) behind calls", x.restore(0), 0);
+        due("nothing can be undone behind", x.count(9), 0);
+        due("nothing can be undone behind", x.undo(1), -3);
+        due("rain", x.count(5), 8);
+        imagesOfOtherLands();
+        in(SMALL);
+        x.image(0);
+        x.rain(1);
+        x.image(1);
         says(40, "An IMAGE is made: 0. -2.");
         for (int i : new int[] {-1, 2, 31, 32, MIN, MAX}) {
             due("image(" + i + ")", x.image(i), -2);
@@ -216,6 +227,36 @@ final class EdgesOfKeeping extends Edges {
         }
         due("no lane", x.lane(0, 0), -2);
         due("trays aren't in an image", x.write(0, 0, 7), 7);
+    }
+
+    /** Both images and the land that is now are of three texts; more texts, with a fault or without, change none of them. */
+    private static void imagesOfOtherLands() {
+        x = new RutWays();
+        Check.tell(x, "land places 2;lane 0 1 soft 1 depth 2;person turns 1;wears:1;may:depth=2;");
+        x.image(0);
+        Check.tell(x, "land places 3;lane 1 2 soft 2 depth 3;person turns 2;wears:2;may:depth=3;");
+        x.image(1);
+        Check.tell(x, "land places 4;lane 2 3 soft 3 depth 4;person turns 3;wears:3;may:depth=4;");
+        for (int round = 0; round < 3; round++) {
+            due("a text with a fault", Check.tell(x, "land places 7;lane 5 6 soft 9 depth 1;person turns 8;wears:6;may:1=2;rain 10;"), -33);
+            ofText(4);
+            due("restore(1)", x.restore(1), 0);
+            ofText(3);
+            due("restore(0)", x.restore(0), 0);
+            ofText(2);
+            Check.tell(x, "land places 4;lane 2 3 soft 3 depth 4;person turns 3;wears:3;may:depth=4;");
+        }
+    }
+
+    /** How all is by the text of so many places. */
+    private static void ofText(int places) {
+        due("places", x.count(0), places);
+        due("an end", x.lane(0, 0), places - 2);
+        due("soft", x.lane(0, 3), places - 1);
+        due("depth", x.lane(0, 2), places);
+        due("open", x.lane(0, 5), 1);
+        due("worn", x.worn(0), places - 1);
+        due("so many others aren't there", x.when(0), -1);
     }
 
     private static void counting() {

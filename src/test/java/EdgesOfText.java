@@ -98,6 +98,9 @@ final class EdgesOfText extends Edges {
         fine(2, LAND + "person turns 0;");
         fine(2, LAND + "person turns 0 back;");
         fine(2, LAND + "person turns 0 back back back;");
+        fine(2, LAND + "person turns 0" + times(" back", 170) + ";");
+        fine(2, LAND + "lane 0 1" + times(" depth 6 soft 9 risk 9", 38) + " risk 10;");
+        due("the last of many", x.lane(0, 4), 10);
         fine(2, LAND + "rain 0;");
         fine(2, LAND + "wears:0;");
         fine(2, LAND + "may:0=0;");
@@ -148,6 +151,8 @@ final class EdgesOfText extends Edges {
         due("* ahead of -", lawful("wears:7-2*2;", 0), 3);
         due("* ahead of + behind it", lawful("wears:2*2+1;", 0), 5);
         due("three by *", lawful("wears:1*2*3;", 0), 6);
+        due("many by *", lawful("wears:" + times("1*", 400) + "5;", 0), 5);
+        due("many by + and -", lawful("wears:" + times("1-1+", 200) + "3;", 0), 3);
         due("( SUM )", lawful("wears:(1+2)*2;", 0), 6);
         due("( SUM )", lawful("wears:6-(3-2);", 0), 5);
         due("N", lawful("wears:000;", 4), 0);
@@ -203,10 +208,14 @@ final class EdgesOfText extends Edges {
         String[] yes = {"1=1", "1<2", "2>1", "not 1=2", "[1=1]", "1=2 or 1=1", "1=1 or 1=2", "1=1 and 2=2", "1=2 or 1=2 or 1=1",
             "1=1 and 1=1 and 1=1", "1=1 or 1=1 and 1=2", "1=2 and 1=2 or 1=1", "1=2 and 1=1 or 1=1", "not 1=2 and 1=1",
             "not [1=1 and 1=2]", "not not 1=1", "not 1=2 or 1=2", "[1=2 or 1=1] and 1=1", "1+1=2", "1<1+1", "2*2>3", "(1)=1",
-            "not 1=1 or 1=1", "[[1=1]]", "not [not [1=1]]"};
+            "not 1=1 or 1=1", "[[1=1]]", "not [not [1=1]]", "2>1 and 1=1", "1<2 and 2>1", "2>1 and 2>1", "1=1 and 1<2", "2>1 or 1>2"};
         String[] no = {"1=2", "2=1", "1<1", "2<1", "1>1", "1>2", "not 1=1", "[1=2]", "1=2 or 2=1", "1=1 and 1=2", "1=2 and 1=1",
             "[1=1 or 1=1] and 1=2", "not [1=2 or 1=1]", "not not 1=2", "not 1=1 and 1=1", "not 1=1 and 1=2", "1=1 and 1=1 and 1=2",
-            "1=2 or 1=1 and 1=2", "1=2 and [1=1 or 1=1]"};
+            "1=2 or 1=1 and 1=2", "1=2 and [1=1 or 1=1]", "not 2>1", "not 1<2", "2>1 and 1>2", "1>2 or 2<1"};
+        fine(2, LAND + "may:" + times("1=2 or ", 120) + "1=1;");
+        fine(2, LAND + "may:" + times("1=1 and ", 100) + "1=1;");
+        due("many by or", lawful("wears:if " + times("1=2 or ", 110) + "1=1 then 5 else 2 end;", 0), 5);
+        due("many by and", lawful("wears:if " + times("1=1 and ", 100) + "1=2 then 5 else 2 end;", 0), 2);
         for (String truth : yes) {
             in("land places 2;lane 0 1;may:" + truth + ";");
             due(truth, x.why(0), 0);
@@ -269,7 +278,24 @@ final class EdgesOfText extends Edges {
         fine(2, LAND + "may:not not not not not (1)=(1) and not not not not not not 1=1;");
         fault(4, LAND + "may:not not not not not (1)=(^(1));");
         fine(3, LAND + "may:" + times("not ", 6) + "1=1;wears:" + times("(", 6) + "1" + times(")", 6) + ";");
+        deepest();
         due("six times not", lawful("wears:if " + times("not ", 5) + "1=2 then 5 else 2 end;", 0), 5);
+    }
+
+    /** Six within one another, each in the last part of all that can stand around it. */
+    private static void deepest() {
+        String truth = "depth=0";
+        String sum = "depth";
+        for (int i = 0; i < 6; i++) {
+            truth = "1=2 or 1=1 and 0<0+1*if " + truth + " then 1 else 0 end";
+            sum = "0+1*if 1=2 then 9 else " + sum + " end";
+        }
+        in("land places 2;lane 0 1;lane 0 1 depth 1;may:" + truth + ";");
+        due("it holds", x.lane(0, 5), 1);
+        due("it doesn't", x.lane(1, 5), 0);
+        for (int depth = 0; depth <= 6; depth++) {
+            due("as deep as it was", lawful("wears:" + sum + ";", depth), depth);
+        }
     }
 
     private static void boundsOfPlaces() {
@@ -323,12 +349,14 @@ final class EdgesOfText extends Edges {
         due("a later 0", x.lane(0, 2) + x.lane(0, 3) + x.lane(0, 4), 0);
         StringBuilder nine = new StringBuilder(LAND);
         for (int l = 0; l < 9; l++) {
-            nine.append("lane 0 1 soft ").append(l).append(";");
+            nine.append("lane 0 1 depth ").append(l % 7).append(" soft ").append(l).append(" risk ").append(l + 1).append(";");
         }
         fine(10, nine.toString());
         due("nine", x.count(1), 9);
         for (int l = 0; l < 9; l++) {
+            due("numbered as told", x.lane(l, 2), l % 7);
             due("numbered as told", x.lane(l, 3), l);
+            due("numbered as told", x.lane(l, 4), l + 1);
         }
         due("no lane 9", x.lane(9, 3), -2);
         fault(4, nine + "^lane 0 1;");
@@ -384,6 +412,9 @@ final class EdgesOfText extends Edges {
         due("the later may", x.why(0), 0);
         due("the later wears", x.worn(0), 1);
         due("all are lines", x.count(11), 6);
+        due("the last of many", lawful(times("wears:1;", 100) + "wears:4;", 0), 4);
+        in("land places 2;lane 0 1;" + times("may:1=2;", 100) + "may:1=1;");
+        due("the last of many", x.why(0), 0);
         fault(3, LAND + "rain ^10;rain 1;");
         fault(3, LAND + "cart at ^3 pull 0;cart at 0 pull 0;");
     }
@@ -428,6 +459,10 @@ final class EdgesOfText extends Edges {
         fault(2, LAND + "^lanes 0 9;@");
         fault(3, LAND + "lane 0 ^9 @");
         fault(2, LAND + "rain ^; rain 10; @");
+        fault(2, LAND + "rain 1 ^rain 10;");
+        fault(2, LAND + "lane 0 1 ^rain @;");
+        fault(2, LAND + "cart at 0 pull 0 ^lane 0 0;");
+        fault(2, "land places 2 ^rain 10;");
         fault(1, LAND + "rain ^@; rain 10;");
         fault(3, LAND + "rain ^10 rain 1000");
         fault(4, LAND + times("lane 0 1;", 9) + "^lane 9 9 @");
@@ -587,6 +622,7 @@ final class EdgesOfText extends Edges {
         }
         due("what can be undone stays", x.undo(2), 0);
         due("cart", x.count(3), 1);
+        nothingIsLeft();
         says(3, "-3: n is below 0 or above what there is (THE TAPE stays);");
         x = new RutWays();
         due("land(1)", x.land(1), -3);
@@ -610,6 +646,36 @@ final class EdgesOfText extends Edges {
         due("3", Check.tell(x, "land places 8;"), -33);
         due("4", Check.tell(x, "land places 2;wears:((((((("), -34);
         due("the tape is empty with a fault", x.count(10), 0);
+    }
+
+    /** A text that tells little, behind some that tell all, is as if it were the first. */
+    private static void nothingIsLeft() {
+        x = new RutWays();
+        for (int i = 0; i < 5; i++) {
+            Check.tell(x, "land places 3;lane 0 1 depth 5 soft 6 risk 7;cart at 1 pull 8;person turns 1 back;rain 9;wears:3;may:1=2;");
+        }
+        for (int i = 0; i < 5; i++) {
+            due("land", Check.tell(x, "land places 2;lane 1 0;person turns 2;"), 3);
+            int[] lane = {1, 0, 0, 0, 0, 1};
+            for (int what = 0; what < lane.length; what++) {
+                due("lane(0, " + what + ") as told", x.lane(0, what), lane[what]);
+            }
+            int[] counts = {2, 1, 1, 0, 0, 0, 0, 0, 0, 0, 0, 3};
+            for (int what = 0; what < counts.length; what++) {
+                due("count(" + what + ") as told", x.count(what), counts[what]);
+            }
+            due("no law of wearing", x.worn(0), 0);
+        }
+        for (int i = 0; i < 5; i++) {
+            due("laws anew", Check.tell(x, "land places 2;lane 1 0;may:1=1 and 2>1;wears:2+" + i + "-" + i + ";"), 4);
+            due("open", x.lane(0, 5), 1);
+            due("worn", x.worn(0), 2);
+        }
+        x = new RutWays();
+        for (int i = 1; i <= 6; i++) {
+            due("a long law anew", Check.tell(x, "land places 2;lane 1 0;wears:" + times("1-1+", 210) + i + ";"), 3);
+            due("worn", x.worn(0), i);
+        }
     }
 
     private static void faulting() {
