@@ -234,6 +234,10 @@ final class EdgesOfAsking extends Edges {
         due("like fillings and lanes", x.cheapest(3, 0), 1);
         due("the first by lanes", x.cheapBy(3, 0), 2);
         due("the first by lanes", x.cheapBy(3, 1), 0);
+        in("land places 2;lane 0 1;lane 0 1 depth 1;");
+        due("the lighter one, though it is told first", x.cheapest(1, 0), 0);
+        in("land places 2;lane 0 1 depth 1;lane 0 1;");
+        due("the lighter one, though it is told last", x.cheapBy(1, 0), 1);
         in(chain(" depth 6"));
         due("all that can be: 36", x.cheapest(6, 0), 36);
         due("six lanes", x.cheapest(6, 1), 6);
@@ -565,6 +569,12 @@ final class EdgesOfAsking extends Edges {
             in(chain.toString());
             due(n + " lanes behind one another", x.wins(), n % 2);
         }
+        in(NINE_BESIDE);
+        due("nine lanes", x.wins(), 1);
+        Check.tell(x, "land places 3;lane 0 1;lane 1 2;");
+        due("two, in a land behind the one of nine", x.wins(), 0);
+        Check.tell(x, "land places 2;lane 0 1;");
+        due("one, in a land behind these", x.wins(), 1);
         in("land places 7;lane 1 2;");
         due("it can't go on", x.wins(), 0);
         says(34, "The first LANE by which it does. NONE: it doesn't.");

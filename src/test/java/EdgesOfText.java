@@ -451,6 +451,19 @@ final class EdgesOfText extends Edges {
             }
         }
         fault(1, LAND + "lane 0 1 ^Depth 1;");
+        fault(2, "^xand places 3;");
+        fault(2, "^lanx places 3;");
+        fault(2, "^an places 3;");
+        fault(2, "land ^placess 3;");
+        fault(2, "land ^place 3;");
+        fault(2, "land places ^x;");
+        fault(2, LAND + "lane ^a 1;");
+        fault(2, LAND + "lane 0 ^b;");
+        fault(2, LAND + "rain ^x;");
+        fault(2, LAND + "rain ^nine;");
+        fault(2, LAND + "wears:^x;");
+        fault(2, LAND + "wears:1+^x;");
+        fault(2, LAND + "may:1=^x;");
         fault(2, LAND + "lane 0 1 ^depH 1;");
     }
 
