@@ -579,15 +579,16 @@ public final class RutWays {
 
     /** The greatest number of these rains by which a lane's rut would be as deep. */
     private int mostAlike(int l, int set) {
+        // One count a depth, four bits each: there are ten rains at most.
+        int counts = 0;
+        for (int rain = 0; rain <= MOST_RAIN; rain++) {
+            if ((set >> rain & 1) != 0) {
+                counts += 1 << 4 * wornByRain(l, rain);
+            }
+        }
         int most = 0;
         for (int depth = 0; depth <= MOST_DEEP; depth++) {
-            int alike = 0;
-            for (int rain = 0; rain <= MOST_RAIN; rain++) {
-                if ((set >> rain & 1) != 0 && wornByRain(l, rain) == depth) {
-                    alike++;
-                }
-            }
-            most = Math.max(most, alike);
+            most = Math.max(most, counts >> 4 * depth & 15);
         }
         return most;
     }
